@@ -9,30 +9,27 @@ import java.util.Set;
 // Every row and every code, against a model that follows the document's words over lists.
 public final class GenomeSorterAllRows {
     private static final int CALLS_OF_AN_OBJECT = 512;
-    private static final int SHOWN = 50;
     private static final int SORTED = 159440;
 
     private static final List<List<Integer>> rows = new ArrayList<>();
     private static final Map<List<Integer>, Integer> distances = new HashMap<>();
-    private static int wrong = 0;
     private static int calls = 0;
     private static GenomeSorter object = new GenomeSorter();
 
     public static void main(String[] args) {
+        Due.test("the model", GenomeSorterAllRows::makeModel);
+        Due.test("every code", GenomeSorterAllRows::everyCode);
+        Due.test("every row: questions", () -> rows.forEach(GenomeSorterAllRows::questions));
+        Due.test("every row: turns", () -> rows.forEach(GenomeSorterAllRows::turns));
+        Due.test("every row: changes", () -> rows.forEach(GenomeSorterAllRows::changes));
+        Due.test("every row: sorting", () -> rows.forEach(GenomeSorterAllRows::sorting));
+        Due.end();
+    }
+
+    private static void makeModel() {
         addRows(new ArrayList<>());
-        due("the number of rows", rows.size(), 3840);
+        Due.answer("the number of rows", rows.size(), 3840);
         measureRows();
-        everyCode();
-        for (List<Integer> row : rows) {
-            questions(row);
-            turns(row);
-            changes(row);
-            sorting(row);
-        }
-        System.out.println(wrong == 0 ? "all answers are as due" : wrong + " answers are not as due");
-        if (wrong != 0) {
-            System.exit(1);
-        }
     }
 
     private static void addRows(List<Integer> start) {
@@ -63,7 +60,7 @@ public final class GenomeSorterAllRows {
                 distances.put(row, d);
             }
         }
-        due("the number of measured rows", distances.size(), rows.size());
+        Due.answer("the number of measured rows", distances.size(), rows.size());
     }
 
     private static boolean leadsToMeasured(List<Integer> row) {
@@ -90,21 +87,21 @@ public final class GenomeSorterAllRows {
             }
             calls += 2;
             boolean isRow = codes.contains(code);
-            due("load(" + code + ")", object.load(code), isRow);
+            Due.answer("load(" + code + ")", object.load(code), isRow);
             held = isRow ? code : held;
-            due("code after load(" + code + ")", object.code(), held);
+            Due.answer("code after load(" + code + ")", object.code(), held);
         }
     }
 
     private static void questions(List<Integer> row) {
         GenomeSorter x = loaded(row, 20);
         int now = distances.get(row);
-        due(row + " code", x.code(), codeOf(row));
+        Due.answer(row + " code", x.code(), codeOf(row));
         for (int p = -2; p < 7; p++) {
-            due(row + " at " + p, x.at(p), isPlace(p) ? row.get(p) : 0);
+            Due.answer(row + " at " + p, x.at(p), isPlace(p) ? row.get(p) : 0);
         }
-        due(row + " distance", x.distance(), now);
-        due(row + " breaks", x.breaks(), breaksOf(row));
+        Due.answer(row + " distance", x.distance(), now);
+        Due.answer(row + " breaks", x.breaks(), breaksOf(row));
         int worst = now;
         int best = now;
         for (int choice = 0; choice < 32; choice++) {
@@ -117,9 +114,9 @@ public final class GenomeSorterAllRows {
             worst = Math.max(worst, distances.get(other));
             best = Math.min(best, distances.get(other));
         }
-        due(row + " worstSigns", x.worstSigns(), worst);
-        due(row + " bestSigns", x.bestSigns(), best);
-        due(row + " code after the questions", x.code(), codeOf(row));
+        Due.answer(row + " worstSigns", x.worstSigns(), worst);
+        Due.answer(row + " bestSigns", x.bestSigns(), best);
+        Due.answer(row + " code after the questions", x.code(), codeOf(row));
     }
 
     private static void turns(List<Integer> row) {
@@ -130,33 +127,33 @@ public final class GenomeSorterAllRows {
         for (int i = -1; i < 6; i++) {
             for (int j = -1; j < 6; j++) {
                 int after = isPiece(i, j) ? distances.get(turned(row, i, j)) : -1;
-                due(row + " distanceAfter " + i + ", " + j, x.distanceAfter(i, j), after);
+                Due.answer(row + " distanceAfter " + i + ", " + j, x.distanceAfter(i, j), after);
                 good += isPiece(i, j) && after < now ? 1 : 0;
                 idle += isPiece(i, j) && after == now ? 1 : 0;
             }
         }
-        due(row + " goodTurns", x.goodTurns(), good);
-        due(row + " idleTurns", x.idleTurns(), idle);
-        due(row + " firstGood", x.firstGood(), firstGoodOf(row));
-        due(row + " code after asking for turns", x.code(), codeOf(row));
+        Due.answer(row + " goodTurns", x.goodTurns(), good);
+        Due.answer(row + " idleTurns", x.idleTurns(), idle);
+        Due.answer(row + " firstGood", x.firstGood(), firstGoodOf(row));
+        Due.answer(row + " code after asking for turns", x.code(), codeOf(row));
     }
 
     private static void changes(List<Integer> row) {
         for (int p = -1; p < 6; p++) {
             for (int q = -1; q < 6; q++) {
                 GenomeSorter x = loaded(row, 3);
-                due(row + " turn " + p + ", " + q, x.turn(p, q), isPiece(p, q));
-                due(row + " code after turn " + p + ", " + q, x.code(),
+                Due.answer(row + " turn " + p + ", " + q, x.turn(p, q), isPiece(p, q));
+                Due.answer(row + " code after turn " + p + ", " + q, x.code(),
                     codeOf(isPiece(p, q) ? turned(row, p, q) : row));
                 x = loaded(row, 3);
                 boolean swaps = p != q && isPlace(p) && isPlace(q);
-                due(row + " swap " + p + ", " + q, x.swap(p, q), swaps);
-                due(row + " code after swap " + p + ", " + q, x.code(),
+                Due.answer(row + " swap " + p + ", " + q, x.swap(p, q), swaps);
+                Due.answer(row + " code after swap " + p + ", " + q, x.code(),
                     codeOf(swaps ? swapped(row, p, q) : row));
             }
             GenomeSorter x = loaded(row, 3);
-            due(row + " flip " + p, x.flip(p), isPlace(p));
-            due(row + " code after flip " + p, x.code(), codeOf(isPlace(p) ? flipped(row, p) : row));
+            Due.answer(row + " flip " + p, x.flip(p), isPlace(p));
+            Due.answer(row + " code after flip " + p, x.code(), codeOf(isPlace(p) ? flipped(row, p) : row));
         }
     }
 
@@ -170,8 +167,8 @@ public final class GenomeSorterAllRows {
                 done++;
             }
             GenomeSorter x = loaded(row, 3);
-            due(row + " sort " + n, x.sort(n), done);
-            due(row + " code after sort " + n, x.code(), codeOf(end));
+            Due.answer(row + " sort " + n, x.sort(n), done);
+            Due.answer(row + " code after sort " + n, x.code(), codeOf(end));
         }
     }
 
@@ -242,25 +239,12 @@ public final class GenomeSorterAllRows {
             renew();
         }
         calls += callsToCome;
-        due("load of " + row, object.load(codeOf(row)), true);
+        Due.answer("load of " + row, object.load(codeOf(row)), true);
         return object;
     }
 
     private static void renew() {
         object = new GenomeSorter();
         calls = 0;
-    }
-
-    private static void due(String call, boolean got, boolean want) {
-        due(call, got ? 1 : 0, want ? 1 : 0);
-    }
-
-    private static void due(String call, int got, int want) {
-        if (got != want) {
-            wrong++;
-            if (wrong <= SHOWN) {
-                System.out.println(call + " answered " + got + ", due is " + want);
-            }
-        }
     }
 }
