@@ -207,7 +207,7 @@ public final class GenomeSorterBoundaries {
     private static void callsAfterTheLast() {
         GenomeSorter x = usedFor(512);
         for (int round = 0; round < 100; round++) {
-            callAll(x, round, 4);
+            callAll(x, round % 7 - 1, round % 6);
         }
     }
 
@@ -605,14 +605,18 @@ public final class GenomeSorterBoundaries {
         });
     }
 
+    // More rows than one: what a piece too long makes of a row may be no row, and have no distance, by chance.
     private static void everyDistanceAfterIsNone(Consumer<GenomeSorter> asks) {
-        GenomeSorter x = Due.loaded(HELD);
-        asks.accept(x);
-        Due.row("distanceAfter of no piece", x, HELD);
+        int[][] rows = {HELD, {1, 2, 3, 4, 5}, {5, -2, 3, 4, -1}, {-1, 3, 4, -2, -5}};
+        for (int[] row : rows) {
+            GenomeSorter x = Due.loaded(row);
+            asks.accept(x);
+            Due.row("distanceAfter of no piece", x, row);
+        }
     }
 
     private static void distanceAfterIsNone(GenomeSorter x, int i, int j) {
-        Due.answer("distanceAfter(" + i + ", " + j + ")", x.distanceAfter(i, j), -1);
+        Due.answer("distanceAfter(" + i + ", " + j + ")", x.distanceAfter(i, j), GenomeSorter.NONE);
     }
 
     private static void noGoodTurns() {
