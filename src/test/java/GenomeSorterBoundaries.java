@@ -230,16 +230,7 @@ public final class GenomeSorterBoundaries {
         x.turn(a, b);
         x.swap(a, b);
         x.flip(a);
-        x.code();
-        x.at(a);
-        x.distance();
-        x.distanceAfter(a, b);
-        x.goodTurns();
-        x.firstGood();
-        x.breaks();
-        x.worstSigns();
-        x.bestSigns();
-        x.idleTurns();
+        Due.askAll(x, a, b);
         x.sort(a);
     }
 

@@ -143,16 +143,7 @@ public final class GenomeSorterPromises {
 
     private static void questionsChangeNothing() {
         GenomeSorter x = Due.loaded(2, -3, 5, 1, -4);
-        x.code();
-        x.at(2);
-        x.distance();
-        x.distanceAfter(0, 3);
-        x.goodTurns();
-        x.firstGood();
-        x.breaks();
-        x.worstSigns();
-        x.bestSigns();
-        x.idleTurns();
+        Due.askAll(x, 1, 3);
         Due.row("questions", x, 2, -3, 5, 1, -4);
     }
 

@@ -53,6 +53,19 @@ final class Due {
         return sum;
     }
 
+    static void askAll(GenomeSorter x, int a, int b) {
+        x.code();
+        x.at(a);
+        x.distance();
+        x.distanceAfter(a, b);
+        x.goodTurns();
+        x.firstGood();
+        x.breaks();
+        x.worstSigns();
+        x.bestSigns();
+        x.idleTurns();
+    }
+
     static void end() {
         System.out.println(tests + " tests, " + wrong + " answers not as due");
         if (wrong != 0) {
