@@ -19,6 +19,7 @@ public final class GenomeSorterPromises {
         Due.test("16: idleTurns", GenomeSorterPromises::idleTurns);
         Due.test("questions change nothing", GenomeSorterPromises::questionsChangeNothing);
         Due.test("objects are apart", GenomeSorterPromises::objectsAreApart);
+        Due.test("the example of README.md", GenomeSorterPromises::exampleOfReadme);
         Due.end();
     }
 
@@ -155,5 +156,20 @@ public final class GenomeSorterPromises {
         y.flip(4);
         Due.row("flip of the other object", x, -3, -2, -1, 4, 5);
         Due.row("new beside them", new GenomeSorter(), 1, 2, 3, 4, 5);
+    }
+
+    private static void exampleOfReadme() {
+        GenomeSorter sorter = new GenomeSorter();
+        Due.answer("swap(0, 1)", sorter.swap(0, 1), true);
+        Due.answer("code() after swap(0, 1)", sorter.code(), Due.codeOf(2, 1, 3, 4, 5));
+        Due.answer("distance()", sorter.distance(), 3);
+        Due.answer("firstGood()", sorter.firstGood(), 0);
+        Due.answer("turn(0, 0)", sorter.turn(0, 0), true);
+        Due.answer("at(0)", sorter.at(0), -2);
+        Due.answer("firstGood() after turn(0, 0)", sorter.firstGood(), 1);
+        Due.answer("sort(9)", sorter.sort(9), 2);
+        Due.answer("code()", sorter.code(), 159440);
+        Due.answer("turn(3, 2)", sorter.turn(3, 2), false);
+        Due.answer("distanceAfter(3, 2)", sorter.distanceAfter(3, 2), GenomeSorter.NONE);
     }
 }
