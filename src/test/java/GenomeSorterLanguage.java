@@ -16,8 +16,9 @@ import javax.tools.JavaCompiler;
 import javax.tools.StandardJavaFileManager;
 import javax.tools.ToolProvider;
 
-// Those rules of LANGUAGE.md that can be seen from the source's shape. Rules 7 and 11, that every loop ends (8),
-// and the order inside the constructor (4) are left to reading; GenomeSorterFace looks at the public face (1).
+// Those rules of LANGUAGE.md that can be seen from the source's shape. Rule 7, that every loop ends (8), and how
+// methods compare and rename arrays (4) are left to reading; GenomeSorterFace looks at the public face (1).
+// Rule 11 follows from there being no call but to the class's own methods.
 public final class GenomeSorterLanguage {
     private static final Set<String> TYPES = Set.of("int", "long", "short", "byte", "char", "boolean", "void",
         "int[]", "long[]", "short[]", "byte[]", "char[]", "boolean[]");
